@@ -179,6 +179,9 @@ public final class PromiseTests {
         faulty("d0;p0 0 1;r1;", 2, 4);
         faulty("d0;r1;p1 0 1;", 2, 7);
         faulty("d0;r1;p0 1 1;", 2, 9);
+        faulty("d0;r1;p6 0 1;", 2, 7);
+        faulty("d0;r1;u999 0;", 2, 7);
+        faulty("d0;r1;w999999999999 0 0 0;", 2, 7);
         faulty("d0;r1;p0 0 10;", 2, 11);
         faulty("d0;r1;r2;w2 0 0 0;", 2, 10);
         faulty("d0;r1;r2;w0 1 1 0;", 2, 12);
@@ -213,6 +216,9 @@ public final class PromiseTests {
         due("the end", x.fault(), 3);
         x.house();
         due("an empty one", x.fault(), NONE);
+        housed(x, "d0;r1;");
+        housed(x, "d0");
+        due("what was fed before is not read again", x.fault(), 2);
     }
 
     private static void promise5() {
@@ -232,7 +238,12 @@ public final class PromiseTests {
         due("told(MIN)", x.told(MIN), OUTSIDE);
         due("D of 0", of("d0;").told(0), 0);
         due("MOST READ, of like ones the least", of("d0;r4,3,0,0,0;r3,4;").told(10), 3);
+        due("MOST READ, once", of("d0;r0,9,0;").told(10), 9);
         due("MOST READ, rests alone", of("d0;r0,0;").told(10), NONE);
+        MusicWalls full = of("d0;r1,1,1,1,1,1,1,1,1,1,1,1;r2,2,2,2,2,2,2,2,2,2,2,2;");
+        due("OPEN: none of twelve BARS", full.told(8), 0);
+        due("MOST READ of twelve BARS", full.told(10), 1);
+        due("KEY of twelve BARS", full.room(0, 2), 0);
         due("OPEN: one BAR alone is not", of("d0;r7;r1,2;r1,2,1;r0,1;").told(8), 10);
     }
 
@@ -330,6 +341,24 @@ public final class PromiseTests {
         x.undo(2);
         due("undone: latest", x.logged(0, 0), 1);
         due("undone: how many", x.told(7), 8);
+        undoneLog();
+    }
+
+    /** A LOG that was overwritten in between is as it was. */
+    private static void undoneLog() {
+        MusicWalls x = of("d0;r1,1,1;r1,1,1;p0 0 1;p1 0 1;p1 0 1;w0 0 1 0;w0 1 1 1;w0 2 1 2;");
+        x.hour(10);
+        x.keep(0);
+        int[] latest = new int[60];
+        for (int i = 0; i < 60; i++) latest[i] = x.logged(i / 3, i % 3);
+        x.hour(1);
+        due("one later", x.logged(0, 0), 2);
+        due("one before", x.logged(2, 0), 1);
+        x.undo(1);
+        for (int i = 0; i < 60; i++) due("undone: logged(" + i / 3 + ", " + i % 3 + ")", x.logged(i / 3, i % 3), latest[i]);
+        x.hour(7);
+        x.goBack(0);
+        for (int i = 0; i < 60; i++) due("IMAGE: logged(" + i / 3 + ", " + i % 3 + ")", x.logged(i / 3, i % 3), latest[i]);
     }
 
     private static void promise11() {
@@ -363,11 +392,34 @@ public final class PromiseTests {
         MusicWalls bare = of("d1;");
         due("no ROOMS", bare.hour(30), 0);
         due("no ROOMS", bare.told(5), 30);
+        MusicWalls one = of("d1;r1,2,3;");
+        one.hour(2);
+        due("one ROOM alone", one.room(0, 1), 3);
+        hourBounds();
         due("hour(0)", x.hour(0), OUTSIDE);
         due("hour(31)", x.hour(31), OUTSIDE);
         due("hour(MIN)", x.hour(MIN), OUTSIDE);
         due("no HOUSE", new MusicWalls().hour(1), NOT);
         due("no HOUSE", new MusicWalls().hour(31), OUTSIDE);
+    }
+
+    /** Behind 512 calls what is answered is free, but only there these bounds come: the class keeps to them all the same. */
+    private static void hourBounds() {
+        MusicWalls x = of("d0;r1;");
+        for (int i = 0; i < 3000; i++) x.hour(30);
+        due("HOURS", x.told(5), 90000);
+        due("not above 90000 as it is called", x.hour(1), 0);
+        due("FULL", x.hour(1), FULL);
+        due("FULL", x.drift(30), FULL);
+        due("OUTSIDE is ahead", x.hour(31), OUTSIDE);
+        String walls = "w0 0 1 0;w0 0 1 0;w0 0 1 0;w0 0 1 0;w0 0 1 0;w0 0 1 0;";
+        MusicWalls met = of("d0;r1;r1;p0 0 0;p0 0 0;p1 0 0;p1 0 0;p1 0 0;" + walls);
+        int hours = 999999 / 36;
+        for (int i = 0; i < hours; i++) met.hour(1);
+        due("MET", met.told(6), hours * 36);
+        due("MET has a bound", met.hour(1), 999999);
+        due("MET has a bound", met.hour(1), 999999);
+        due("MEETS has none", met.meets(2), 72);
     }
 
     private static void promise12() {
@@ -485,6 +537,10 @@ public final class PromiseTests {
         x.drift(1);
         due("PACED", x.person(second / 65536 % 3, 2), third / 65536 % 10);
         due("three draws", x.seed(v), third);
+        MusicWalls alone = of("d0;r1,1;p0 0 0;");
+        alone.seed(v);
+        alone.drift(1);
+        due("one PERSON alone", alone.person(0, 2), third / 65536 % 10);
         MusicWalls empty = of("d0;r1,1;");
         empty.seed(v);
         empty.drift(1);
@@ -531,6 +587,8 @@ public final class PromiseTests {
         due("undo(29)", x.undo(29), 6);
         due("undo(1)", x.undo(1), 5);
         due("no more", x.undo(1), NOT);
+        x.hour(30);
+        due("undo(30)", x.undo(30), 5);
         due("no HOUSE", new MusicWalls().undo(1), NOT);
         due("no HOUSE", new MusicWalls().undo(0), OUTSIDE);
     }
@@ -576,6 +634,7 @@ public final class PromiseTests {
         due("another", x.together(2, 1), 2);
         due("another WALL", x.together(1, 3), 1);
         due("never", x.together(0, 2), NONE);
+        due("one WALL behind the last", of("d0;r1;p0 0 0;p0 0 0;").together(0, 1), NONE);
         due("nothing changes", x.told(5) + x.told(6) + x.told(13), 0);
         due("a like one", x.together(1, 1), UNKNOWN);
         due("together(0, 4)", x.together(0, 4), UNKNOWN);
@@ -596,6 +655,7 @@ public final class PromiseTests {
         due("canon(1, 0, 1)", x.canon(1, 0, 1), 3);
         due("canon(1, 0, 5)", x.canon(1, 0, 5), 3);
         due("canon(1, 0, 2)", x.canon(1, 0, 2), 1);
+        due("one behind the last is none", of("d0;r1,0;r2,2,0;").canon(0, 1, 0), 0);
         x.lift(0, 0);
         due("canon(0, 1, 2)", x.canon(0, 1, 2), 3);
         due("canon(0, 0, 0)", x.canon(0, 0, 0), UNKNOWN);
@@ -628,6 +688,9 @@ public final class PromiseTests {
         due("NONE", x.match(0, 1, 1, 0), NONE);
         due("NONE", x.match(0, 1, 1, 1), NONE);
         due("untold UNDER is 0", x.match(1, 2, 0, 1), 5);
+        due("match(1, 2, 9, 1)", x.match(1, 2, 9, 1), 5);
+        due("match(1, 2, 11, 0)", x.match(1, 2, 11, 0), NONE);
+        due("match(1, 2, 11, 1)", x.match(1, 2, 11, 1), NONE);
         x.lift(0, 1);
         due("PASTED", x.match(0, 1, 3, 1), 7);
         x.lift(0, 0);
@@ -675,6 +738,12 @@ public final class PromiseTests {
         MusicWalls back = of("d0;r6,7;r5,6;r4,5;r3,4;r2,3;r1,2;");
         due("backwards", back.shortest(0), 7);
         due("backwards", back.shortest(1), 654321);
+        MusicWalls chain = of("d0;r1,2;r3,1;r2,4;r5;");
+        due("a chain", chain.shortest(0), 5);
+        due("a chain", chain.shortest(1), 2134);
+        MusicWalls behind = of("d0;r1,2;r9;r2,3;");
+        due("the next by the one ahead", behind.shortest(0), 4);
+        due("the next by the one ahead", behind.shortest(1), 132);
         back.lift(2, 0);
         due("LIFTED", back.shortest(0), 8);
         due("LIFTED", back.shortest(1), 321654);
@@ -797,6 +866,18 @@ public final class PromiseTests {
         due("the last d", of("d0;r1,1,1,1,1,1,1,1,1,1,1,2;r1,1,1,1,1,1,1,1,1,1,1,1;").lookAt(), 0);
         MusicWalls far = of("d0;r0,1,1,1,1,1,1,1,1,1,1,2;r0,1,1,1,1,1,1,1,1,1,1,3;");
         far.see(0, 0);
+        MusicWalls like = of("d0;r1,2;r2,1;");
+        due("of like ones the least", like.lookAt(), 0);
+        like.see(1, 2);
+        due("12 would be like 0", like.lookAt(), NONE);
+        MusicWalls nine = of("d0;r0,9,1;r0,9,2;r0,8,3;");
+        nine.see(0, 0);
+        due("parts of 9", nine.lookAt(), 2);
+        MusicWalls twelve = of("d0;r0,1,0,0,0,0,0,0,0,0,0,0;r0,1,0,0,0,0,0,0,0,0,0;");
+        twelve.see(0, 0);
+        twelve.see(1, 1);
+        due("12 alone would part them", twelve.lookAt(), NONE);
+        due("two", twelve.places(0), 2);
         due("d 11", far.lookAt(), 11);
     }
 
@@ -829,6 +910,8 @@ public final class PromiseTests {
         due("the first again", x.judge(), 0);
         x.tear();
         due("torn", x.judge(), NONE);
+        x.write(0, 1, 2);
+        due("another BAR", x.judge(), NONE);
     }
 
     private static void promise35() {

@@ -454,11 +454,11 @@ public final class MusicWalls {
         }
 
         int paperOf(int r, int b) {
-            return hasBar(r, b) ? Rows.at(paper, r * BARS + b) : 0;
+            return Rows.at(paper, r * BARS + b);
         }
 
         int underOf(int r, int b) {
-            return hasBar(r, b) ? Rows.at(under, r * BARS + b) : 0;
+            return Rows.at(under, r * BARS + b);
         }
 
         int personPart(int p, int what) {
@@ -624,7 +624,9 @@ public final class MusicWalls {
         }
 
         private void expect(int sign) {
-            if (!accept(sign)) fail(CANNOT_STAND, at);
+            skipBlanks();
+            if (letter() == sign) at++;
+            else fail(CANNOT_STAND, at);
         }
 
         private boolean accept(int sign) {
@@ -703,12 +705,12 @@ public final class MusicWalls {
         }
 
         boolean isLifted(int r, int b) {
-            return Rows.isIn(liftedIn(r), b);
+            return Rows.isIn(Rows.at(lifted, r), b);
         }
 
         /** LIFTS a BAR that is not LIFTED, PASTES one that is. */
         void turn(int r, int b) {
-            if (house.hasBar(r, b)) Rows.put(lifted, r, liftedIn(r) ^ 1 << b);
+            Rows.put(lifted, r, liftedIn(r) ^ 1 << b);
         }
 
         int reads(int r, int b) {
@@ -736,7 +738,7 @@ public final class MusicWalls {
         }
 
         boolean isAt(int p, int r, int b) {
-            return roomOf(p) == r && placeOf(p) == b;
+            return Rows.at(roomsOf, p) == r && Rows.at(placesOf, p) == b;
         }
 
         void setPlace(int p, int r, int b) {
