@@ -353,6 +353,7 @@ public final class PromiseTests {
         for (int i = 0; i < 60; i++) latest[i] = x.logged(i / 3, i % 3);
         x.hour(1);
         due("one later", x.logged(0, 0), 2);
+        due("one later", x.logged(1, 0), 2);
         due("one before", x.logged(2, 0), 1);
         x.undo(1);
         for (int i = 0; i < 60; i++) due("undone: logged(" + i / 3 + ", " + i % 3 + ")", x.logged(i / 3, i % 3), latest[i]);
