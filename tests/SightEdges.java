@@ -114,6 +114,10 @@ final class SightEdges extends Edge {
         x.see(0, 5);
         // One on 1 1 1 2, two on 1 2 3 3.
         due("two on", x.lookAt(), 2);
+        // One on 1 1 1 1 2 3: three parts, one of four; two on 1 1 1 2 2 2: two parts, none above three.
+        MusicWalls parts = of("d0;r5,1,1;r5,1,1;r5,1,1;r5,1,2;r5,2,2;r5,3,2;");
+        parts.see(0, 5);
+        due("not the most parts", parts.lookAt(), 2);
         MusicWalls far = of("d0;r0,1,1,1,1,1,1,1,1,1,1,2;r0,1,1,1,1,1,1,1,1,1,1,3;");
         far.see(0, 0);
         due("d 11", far.lookAt(), 11);
