@@ -1178,7 +1178,7 @@ public final class MusicWalls {
         private int next = 0;
 
         Past(House house) {
-            for (int i = 0; i < DEEDS; i++) ahead[i] = new Life(house);
+            for (int i = 0; i < ahead.length; i++) ahead[i] = new Life(house);
         }
 
         int size() {
@@ -1217,7 +1217,7 @@ public final class MusicWalls {
         private int kept = 0;
 
         Images(House house) {
-            for (int i = 0; i < IMAGES; i++) lives[i] = new Life(house);
+            for (int i = 0; i < lives.length; i++) lives[i] = new Life(house);
         }
 
         void forget() {
